@@ -171,7 +171,8 @@ public final class ModelTest {
     private void type() {
         int kind = random.nextInt(22);
         if (kind < 3 && model.enumerations.size() >= mostEnumerations && random.nextInt(40) > 0) kind = 3;
-        if (kind >= 11 && kind < 13 && model.records.size() >= mostRecords && random.nextInt(40) > 0) kind = 13 + random.nextInt(7);
+        boolean enough = model.records.size() >= mostRecords && random.nextInt(40) > 0;
+        if (kind >= 11 && kind < 13 && enough) kind = 13 + random.nextInt(7);
         if (kind < 3) both("enumeration", "", fields.enumeration(), model.enumeration());
         else if (kind < 7) constant();
         else if (kind < 8) both("family", "", fields.family(), model.family());

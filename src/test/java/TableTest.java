@@ -8,6 +8,7 @@ public final class TableTest {
         keepOnce();
         keepFull();
         keepDeep();
+        roomIsCountedAnew();
         itemsAsTheyWere();
         partsCameAndWent();
         sortsThatGo();
@@ -16,6 +17,7 @@ public final class TableTest {
         rowsOnce();
         objectsOfParts();
         familiesNow();
+        castAheadOfTheObject();
         startsAndChecks();
         aheadOfTheStart();
         loadDeep();
@@ -109,6 +111,15 @@ public final class TableTest {
         due.is("29: as deep as may be", x.keep(63), 63);
         due.is("29: no more", x.keep(64), -3);
         due.is("29: within", x.keep(30), 30);
+    }
+
+    private static void roomIsCountedAnew() {
+        FamilyFields x = pairs();
+        make(x, 0, -1, -1, 0);
+        make(x, 0, 0, -1, 1);
+        for (int i = 2; i < 65; i++) x.keep(make(x, 0, -1, -1, i));
+        due.is("29: two have no room", x.keep(1), -3);
+        due.is("29: one that needs no other has", x.keep(make(x, 0, -1, -1, 65)), 63);
     }
 
     private static void loadDeep() {
@@ -374,6 +385,23 @@ public final class TableTest {
         x.build();
         x.permit(1, false, 0);
         due.is("30: of the family now", x.load(1), 1);
+    }
+
+    private static void castAheadOfTheObject() {
+        FamilyFields x = pairs();
+        make(x, 0, -1, -1, 0);
+        x.keep(make(x, 0, 0, -1, 0));
+        x.build();
+        x.becomes(0, 0, 4, 0);
+        due.is("30: an object is no int", x.load(1), -16);
+        due.is("31: it is not loaded for that", x.line(0, 3), -1);
+        due.is("21: the line", x.cause(4), 1);
+        x.becomes(0, 0, 11, 0);
+        x.becomes(0, 2, 11, 0);
+        due.is("30: an int is no object", x.load(1), -16);
+        due.is("21: in the object of the part first", x.cause(4), 0);
+        due.is("21: the part", x.cause(2), 2);
+        due.is("34: no object", x.count(4), 0);
     }
 
     private static void startsAndChecks() {
