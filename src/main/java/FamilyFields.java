@@ -702,7 +702,8 @@ public final class FamilyFields {
         for (int step = 0; step < steps && depth > 0; step++) {
             int number = open[depth - 1];
             Line line = lines.get(number);
-            Part part = records.get(line.record).partAt(line.filled);
+            RecordType type = recordAt(line.record);
+            Part part = type == null ? null : type.partAt(line.filled);
             int ahead = part == null ? NONE : lineAhead(line, part);
             if (ahead != NONE && depth < open.length) {
                 lines.get(ahead).filled = 0;
