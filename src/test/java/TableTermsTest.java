@@ -289,6 +289,8 @@ public final class TableTermsTest {
             // From 2^25 on a float drops two bits: below the half, the half, above it, and the half with an odd one.
             for (int i = 0; i <= 8; i++) s.is("2^25 and " + i, widened(4, 6, (1 << 25) + i), Float.floatToRawIntBits((1 << 25) + i));
             for (int i = 0; i <= 8; i++) s.is("2^55 and " + i, widened(5, 7, (1L << 55) + i), Double.doubleToRawLongBits((1L << 55) + i));
+            for (int i : new int[] {1 << 23, (1 << 23) + 1, (1 << 24) - 1}) s.is("the last without rounding", widened(4, 6, i), Float.floatToRawIntBits(i));
+            for (long i : new long[] {1L << 52, (1L << 52) + 1, (1L << 53) - 1}) s.is("the last without rounding", widened(5, 7, i), Double.doubleToRawLongBits(i));
             s.is("rounding that carries", widened(5, 7, (1L << 60) - 1), Double.doubleToRawLongBits(0x1p60));
             s.is("the least float above 0", widened(6, 7, 1), Double.doubleToRawLongBits(Float.MIN_VALUE));
             s.is("0 with a sign", widened(6, 7, 0x80000000L), Long.MIN_VALUE);
