@@ -5,8 +5,14 @@ import java.lang.reflect.Method;
 import java.lang.reflect.Modifier;
 import java.nio.file.Files;
 import java.nio.file.Path;
+import java.util.ArrayList;
+import java.util.List;
+import java.util.Map;
 import java.util.Set;
+import java.util.TreeMap;
 import java.util.TreeSet;
+import java.util.regex.Matcher;
+import java.util.regex.Pattern;
 
 /** The public face, and the rules of LANGUAGE.md that a program can see. */
 public final class FaceTest {
@@ -25,9 +31,11 @@ public final class FaceTest {
     public static void main(String[] args) throws IOException {
         constants();
         face();
+        documentsFace();
         privateNames();
         classes();
         words();
+        depthOfCalls();
         due.end();
     }
 
@@ -68,6 +76,27 @@ public final class FaceTest {
         }
         due.holds("the constants are " + fields, fields.equals(Set.of("NONE", "BAD", "STATE", "FULL")));
         due.holds("some twenty fields", own <= 20);
+    }
+
+    /** "The public face" of the document, and the face that each promise but the first tells, are the methods above. */
+    private static void documentsFace() throws IOException {
+        Path document = Path.of("../shared/DOC.md");
+        if (!Files.exists(document)) return;
+        String text = Files.readString(document);
+        due.holds("the document's constants", text.contains("public static final int NONE = -1, BAD = -1, STATE = -2, FULL = -3;"));
+        due.holds("the document's face", shapes(text, "    public (int|long) (\\w+)\\((.*)\\);").equals(METHODS));
+        due.holds("the promises' faces", shapes(text, "`(int|long) (\\w+)\\((.*)\\)`: ").equals(METHODS));
+    }
+
+    private static Set<String> shapes(String text, String form) {
+        Set<String> found = new TreeSet<>();
+        for (String row : text.split("\n")) {
+            Matcher m = Pattern.compile(form).matcher(row);
+            if (!m.lookingAt()) continue;
+            String types = m.group(3).replaceAll(" \\w+(, |$)", ",").replaceAll(",$", "");
+            found.add(m.group(1) + " " + m.group(2) + "(" + types + ")");
+        }
+        return found;
     }
 
     private static void privateNames() {
@@ -111,6 +140,37 @@ public final class FaceTest {
         }
         methodLengths(source.split("\n"), "    ");
         methodLengths(source.split("\n"), "        ");
+    }
+
+    /** Rules 8 and 11: nothing calls itself, by way of others either, and no chain of calls is deeper than eight. */
+    private static void depthOfCalls() throws IOException {
+        String source = Files.readString(Path.of("src/main/java/FamilyFields.java"));
+        String code = source.replaceAll("(?s)/\\*.*?\\*/", "").replaceAll("//[^\n]*", "");
+        Map<String, Set<String>> called = new TreeMap<>();
+        Pattern method = Pattern.compile("(?m)^( {4}| {8})(?:\\w+(?:\\[\\])? )*(\\w+)\\([^)]*\\) \\{\n((?:\\1 .*\n|\n)*)\\1\\}");
+        for (Matcher m = method.matcher(code); m.find();) {
+            due.holds("one method has the name " + m.group(2), called.put(m.group(2), namesCalled(m.group(3))) == null);
+        }
+        due.holds("the methods were found", called.keySet().containsAll(List.of("load", "loadInOrder", "nearestEven", "Part")));
+        for (Set<String> each : called.values()) each.retainAll(called.keySet());
+        for (String name : called.keySet()) deepen(name, called, new ArrayList<>());
+    }
+
+    /** A list's size() is not that of the face. */
+    private static Set<String> namesCalled(String body) {
+        Set<String> names = new TreeSet<>();
+        Matcher m = Pattern.compile("(\\w+)\\(").matcher(body.replace(".size()", ""));
+        while (m.find()) names.add(m.group(1));
+        return names;
+    }
+
+    private static void deepen(String name, Map<String, Set<String>> called, List<String> above) {
+        boolean fine = !above.contains(name) && above.size() < 8;
+        if (!fine) due.holds("calls from " + above + " to " + name, false);
+        if (!fine) return;
+        above.add(name);
+        for (String each : called.get(name)) deepen(each, called, above);
+        above.remove(above.size() - 1);
     }
 
     private static void methodLengths(String[] rows, String indent) {
